@@ -1033,19 +1033,20 @@ public final class StairManners {
 
     /** The soonest row of introductions for one to a place. */
     private static final class Plan {
-        static final int LONGEST = 40;
+        static final int LONGEST = 40, NEVER = LONGEST + 1;
 
+        /** By minute: steps that one lacks and could meet then. */
         private final int[] meetable;
-        private final boolean[] reached;
-        /** By steps met: bit d, if from minute d on the rest can be met in time. */
-        private final long[] inTime;
+        /** By steps met: behind how many minutes they can be; from which minute on the rest still can. */
+        private final int[] soonest;
+        private final int[] latest;
         private int lacking;
         private int length;
 
         Plan() {
             meetable = new int[LONGEST];
-            reached = new boolean[STEP_SETS];
-            inTime = new long[STEP_SETS];
+            soonest = new int[STEP_SETS];
+            latest = new int[STEP_SETS];
             lacking = 0;
             length = NONE;
         }
@@ -1056,42 +1057,41 @@ public final class StairManners {
             for (int d = 0; d < LONGEST; d++) {
                 meetable[d] = house.meetable(i, lacking, house.stand.minute + d);
             }
-            length = shortest();
+            // A set comes behind all that it holds, as the greater number.
+            for (int met = 0; met < STEP_SETS; met++) {
+                soonest[met] = soonestOf(met);
+            }
+            int minutes = within(lacking, 0, STEP_SETS - 1) ? soonest[lacking] : NEVER;
+            length = minutes == NEVER ? NONE : minutes;
             return length;
         }
 
-        private int shortest() {
-            for (int met = 0; met < STEP_SETS; met++) {
-                reached[met] = met == 0;
+        /** One of them is met last: as soon as may be behind the others. */
+        private int soonestOf(int met) {
+            int best = met == 0 ? 0 : NEVER;
+            for (int s = 0; s < STEPS; s++) {
+                int step = 1 << s;
+                if ((met & lacking & step) != 0) {
+                    best = Math.min(best, firstMinute(s, soonest[met ^ step]) + 1);
+                }
             }
-            for (int d = 0; d < LONGEST; d++) {
-                if (isReached(lacking)) {
+            return best;
+        }
+
+        private int firstMinute(int s, int first) {
+            for (int d = Math.max(first, 0); d < LONGEST; d++) {
+                if ((meetable[d] >> s & 1) == 1) {
                     return d;
                 }
-                spread(meetable[d]);
             }
-            return isReached(lacking) ? LONGEST : NONE;
-        }
-
-        private boolean isReached(int met) {
-            return within(met, 0, STEP_SETS - 1) && reached[met];
-        }
-
-        private void spread(int steps) {
-            // Falling, so that no set grows by two steps in one minute.
-            for (int met = STEP_SETS - 1; met > 0; met--) {
-                for (int s = 0; s < STEPS; s++) {
-                    int step = 1 << s;
-                    if ((met & steps & step) != 0 && reached[met ^ step]) {
-                        reached[met] = true;
-                    }
-                }
-            }
+            return LONGEST;
         }
 
         /** What is done in the k-th minute of the first row of that length. */
         int deed(int k) {
-            lookBack();
+            for (int met = STEP_SETS - 1; met >= 0; met--) {
+                latest[met] = latestOf(met);
+            }
             int met = 0;
             int deed = NONE;
             for (int d = 0; d <= k && d < length && d < LONGEST; d++) {
@@ -1101,35 +1101,43 @@ public final class StairManners {
             return deed;
         }
 
-        private void lookBack() {
-            for (int met = 0; met < STEP_SETS; met++) {
-                inTime[met] = met == lacking ? 1L << length : 0;
-            }
-            for (int d = Math.min(length, LONGEST) - 1; d >= 0; d--) {
-                for (int met = 0; met < STEP_SETS; met++) {
-                    if (isInTime(met, d + 1) || firstDeed(met, d) != NONE) {
-                        inTime[met] |= 1L << d;
-                    }
+        /** One of the rest is met first: as late as may be ahead of the others. */
+        private int latestOf(int met) {
+            int best = met == lacking ? length : NONE;
+            for (int s = 0; s < STEPS; s++) {
+                int step = 1 << s;
+                if ((lacking & ~met & step) != 0) {
+                    best = Math.max(best, lastMinute(s, latest[met | step]));
                 }
             }
+            return best;
         }
 
-        private boolean isInTime(int met, int d) {
-            return within(met, 0, STEP_SETS - 1) && (inTime[met] >> d & 1) == 1;
+        private int lastMinute(int s, int end) {
+            for (int d = Math.min(end, LONGEST) - 1; d >= 0; d--) {
+                if ((meetable[d] >> s & 1) == 1) {
+                    return d;
+                }
+            }
+            return NONE;
         }
 
         /** Waiting, if that still leaves time; else the lowest step that does. */
         private int firstDeed(int met, int d) {
-            if (isInTime(met, d + 1)) {
+            if (leavesTime(met, d)) {
                 return NONE;
             }
             for (int s = 0; s < STEPS; s++) {
                 int step = 1 << s;
-                if ((meetable[d] & ~met & step) != 0 && isInTime(met | step, d + 1)) {
+                if ((meetable[d] & ~met & step) != 0 && leavesTime(met | step, d)) {
                     return s;
                 }
             }
             return NONE;
+        }
+
+        private boolean leavesTime(int met, int d) {
+            return within(met, 0, STEP_SETS - 1) && latest[met] > d;
         }
     }
 

@@ -219,6 +219,14 @@ public final class HouseTest {
         fault(PLAIN + "one", 25);
         fault(PLAIN + "one 0 5", 29);
         fault(" hous 0 0 0 0 0 0 0 0;", 1);
+        fault("mouse 0 0 0 0 0 0 0 0;", 0);
+        fault("0 0 0 0 0 0 0 0 0;", 0);
+        fault("house 0A0 0 0 0 0 0 0;", 7);
+        fault("house 0 0 at 0 0 0 0 0;", 10);
+        fault(PLAIN + "pne 0 5;", 22);
+        fault(PLAIN + "one at 5;", 26);
+        fault(PLAIN + "one 0 at;", 28);
+        fault(PLAIN + "3 0 5;", 22);
         fault("houses 0 0 0 0 0 0 0 0;", 0);
         fault("House 0 0 0 0 0 0 0 0;", 0);
         fault("one 0 5;" + PLAIN, 0);
@@ -246,6 +254,9 @@ public final class HouseTest {
         for (int k = 0; k < 6; k++) {
             six.append("one 0 5;");
         }
+        StairManners x = Due.house(six + "at 5 8;knows 5 7;");
+        Due.is("6: where the 6th is", x.of(5, 2), 8);
+        Due.is("6: what the 6th knows", x.of(5, 3), 128);
         fault(six + " one", 71);
         fault(six + "one 0 5;", 70);
         fault(six + "knows 6 0;", 76);

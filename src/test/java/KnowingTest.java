@@ -363,6 +363,17 @@ public final class KnowingTest {
         x = Due.house("house 4 0 0 0 0 1 0 0;one 0 1;carpet 0;carpet 1;");
         Due.is("32: carpets, one minute", x.evenings(0, 1), 2);
         Due.is("32: carpets, two minutes", x.evenings(0, 2), 3);
+        // Seed 4: X is 119106029 (1817 by 6: 5, not there), then 1583775778 (24166 by 6: 4, not there).
+        x = Due.house("house 0 0 0 0 0 0 0 0;one 0 1;knows 0 0;carpet 0;carpet 1;");
+        Due.is("32: a minute goes by if nobody is there to be introduced", x.evenings(4, 1), 2);
+        Due.is("32: and another", x.evenings(4, 2), 3);
+        // People who came by calls, not by a text.
+        x = new StairManners();
+        x.step(0, 4);
+        x.one(0, 1);
+        Due.is("32: no text read", x.evenings(0, 1), 1);
+        x.step(0, 5);
+        Due.is("32: as the steps are now", x.evenings(0, 1), 0);
         int[][] wrong = {{-1, 0}, {1000000, 0}, {0, -1}, {0, 61}};
         for (int[] w : wrong) {
             Due.is("32: evenings(" + w[0] + ", " + w[1] + ")", x.evenings(w[0], w[1]), -2);

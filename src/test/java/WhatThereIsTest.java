@@ -112,6 +112,21 @@ public final class WhatThereIsTest {
         Due.is("35: THE FRACTION stays", x.part(0) * 100 + x.part(1), 710);
         Due.is("35: THE TEXT stays", x.count(9), 1);
         Due.is("35: STATUS stays", x.status(0), 1);
+        x.seen(1, 7, 0);
+        x.note(3, 6, 0, 1);
+        x.mark(1, 0, 0, 2);
+        x.image(1);
+        x.forget(0);
+        x.forget(1);
+        x.forget(2);
+        x.seen(0, 0, 1);
+        x.note(4, 1, 1, 0);
+        x.mark(0, 8, 8, 9);
+        x.from(1);
+        Due.is("35: the IMAGE's SEEN", x.may(1, 1), 255);
+        Due.is("35: the IMAGE's NOTES", x.is(3), 17);
+        Due.is("35: the IMAGE's MARKS", x.kinds(1), 42);
+        Due.is("35: none of what came later", x.may(0, 0) + x.is(4) + x.kinds(0), 256 + 63 + 63);
     }
 
     // Promise 36
@@ -156,6 +171,8 @@ public final class WhatThereIsTest {
         for (int what = 0; what < due.length; what++) {
             Due.is("37: count(" + what + ")", x.count(what), due[what]);
         }
+        StairManners top = Due.house("house 0 0 0 0 0 0 0 0;one 0 1;one 0 1;one 0 1;one 0 1;one 0 1;one 0 1;at 0 8;at 5 8;at 1 7;");
+        Due.is("37: at the top the first and the last", top.count(4), 2);
         Due.is("37: count(-1)", x.count(-1), -2);
         Due.is("37: count(10)", x.count(10), -2);
         Due.is("37: counted as BAD", x.status(0), 2);
