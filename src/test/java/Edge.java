@@ -177,6 +177,7 @@ final class Edge {
         for (int s = 0; s < 8; s++) {
             all.add((long) x.about(s, 0));
         }
+        foretold(x, all);
         undone(x, all);
         for (int i = 0; i < 2; i++) {
             all.add((long) x.from(i));
@@ -185,6 +186,20 @@ final class Edge {
         all.add((long) x.read());
         all.add(x.digest());
         return all;
+    }
+
+    /** What is only asked: a question must not show in what another one answers. */
+    private static void foretold(StairManners x, List<Long> all) {
+        for (int i = 0; i < 6; i++) {
+            int[] answers = {x.plan(i, 8, 0), x.plan(i, 3, -2), x.plan(i, 3, 1), x.hears(i, 7), x.then(i, 3), x.may(i, 1),
+                x.kinds(i), x.ask(i)};
+            for (int answer : answers) {
+                all.add((long) answer);
+            }
+        }
+        all.add((long) x.is(0));
+        all.add((long) x.look(7));
+        all.add((long) x.evenings(7, 9));
     }
 
     /** As it stands now, and behind each undo, to the last that may be. */

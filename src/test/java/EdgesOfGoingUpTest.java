@@ -27,6 +27,7 @@ public final class EdgesOfGoingUpTest {
         planOfTheOtherDay();
         planAsAllStandNow();
         planNotSoMany();
+        planAskedAgain();
         Due.finish();
     }
 
@@ -311,5 +312,39 @@ public final class EdgesOfGoingUpTest {
         Edge.asked("20: the first", gentle, 0, "plan", 0, 0, 0);
         Edge.asked("20: not so many", gentle, -5, "plan", 0, 0, 1);
         Edge.asked("20: of none at all", Edge.told(PLAIN + "one 0 1;at 0 8;"), -5, "plan", 0, 8, 0);
+    }
+
+    // "(Nothing is changed by these ..)": one plan is not to be seen in the next, longer, shorter or none.
+    private static void planAskedAgain() {
+        StairManners x = Edge.made(nights(4));
+        String all = "";
+        for (int round = 0; round < 4; round++) {
+            StringBuilder answers = new StringBuilder();
+            int[][] asked = {{3, -2}, {3, 39}, {3, 38}, {0, -2}, {0, 15}, {8, 0}, {2, 19}, {2, 20}, {1, 17}, {3, 17}, {0, 14}, {3, 15}};
+            for (int[] a : asked) {
+                answers.append(x.plan(0, a[0], a[1])).append(' ');
+            }
+            Due.holds("20: asked again: " + answers, all.isEmpty() || all.equals(answers.toString()));
+            all = answers.toString();
+        }
+        Due.holds("20: " + all, all.equals("40 3 -1 16 0 -6 2 -5 1 1 -1 0 "));
+        x = Edge.made(Edge.told("house 4 4 4 4 4 4 4 4;one 0 5;one 4 1;one 0 6;knows 1 0;knows 1 1;"));
+        for (int round = 0; round < 3; round++) {
+            for (int k = 7; k >= 0; k--) {
+                Due.is("20: of one", x.plan(0, 8, k), k);
+                Due.is("20: of another, by a burglar's word", x.plan(2, 1, k), k > 3 ? -5 : k % 2 == 0 ? -1 : k / 2);
+                Due.is("20: of a third one, from STEP 2 on", x.plan(1, 7, k), k > 5 ? -5 : k + 2);
+            }
+        }
+        // STEP 2 by a widow's word from 18 on, STEP 1 by a burglar's in odd minutes, STEP 0 at any time.
+        x = Edge.made(Edge.told("house 4 0 5 0 0 0 0 0;one 0 5;one 4 1;one 5 1;knows 1 1;knows 2 2;"));
+        for (int round = 0; round < 3; round++) {
+            Due.is("20: the long one", x.plan(0, 2, -2), 19);
+            Due.is("20: the long one's last", x.plan(0, 2, 18), 2);
+            Due.is("20: the long one's first", x.plan(0, 2, 0), -1);
+            Due.is("20: the short one's first", x.plan(0, 1, 0), 0);
+            Due.is("20: the short one's last", x.plan(0, 1, 1), 1);
+            Due.is("20: no more of it", x.plan(0, 1, 2), -5);
+        }
     }
 }

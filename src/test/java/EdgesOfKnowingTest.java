@@ -422,7 +422,9 @@ public final class EdgesOfKnowingTest {
 
     // "the one X by 65536 (cut), by 6 left over .., is INTRODUCED to STEP X by 1048576 (cut), by 8 left over"
     private static void eveningsFirstAndLastOne() {
-        int[][] draws = {{0, 0, 0}, {9, 0, 7}, {31, 5, 0}, {18, 5, 7}, {999999, 4, 6}, {999998, 2, 2}, {3, 5, 5}, {123456, 1, 3}};
+        // Behind them: X a whole number of times 1048576, 1 less than one, the least and the greatest X of all seeds.
+        int[][] draws = {{0, 0, 0}, {9, 0, 7}, {31, 5, 0}, {18, 5, 7}, {999999, 4, 6}, {999998, 2, 2}, {3, 5, 5}, {123456, 1, 3},
+            {501379, 0, 5}, {899870, 3, 0}, {388515, 0, 0}, {518020, 1, 7}, {241, 4, 3}, {959, 3, 5}};
         for (int[] d : draws) {
             for (int people = 0; people <= 6; people++) {
                 for (int s = 0; s < 8; s++) {

@@ -11,6 +11,7 @@ public final class EdgesOfTextTest {
         bytesAtTheMost();
         endsTooEarly();
         everyPrefix();
+        everyTokenInTheWrongPlace();
         kindsOfEightSteps();
         houseOnceAndFirst();
         oneKindWeight();
@@ -124,6 +125,37 @@ public final class EdgesOfTextTest {
         Due.is("items", items, 8);
     }
 
+    // "the first TOKEN that can not stand there": ahead of each TOKEN of a TEXT one of every other sort.
+    private static void everyTokenInTheWrongPlace() {
+        String[] tokens = ("house 5 4 3 2 1 0 5 4 ; one 5 12 ; knows 0 7 ; carpet 6 ; at 0 8 ; minutes 99 ;").split(" ");
+        String[] words = {"one", "knows", "carpet", "at", "minutes"};
+        String[] neverThere = {"stair", "house", "a", "000", "1234", "A", "-", ":"};
+        StringBuilder text = new StringBuilder();
+        for (int k = 0; k < tokens.length; k++) {
+            boolean number = tokens[k].charAt(0) <= '9';
+            boolean end = tokens[k].equals(";");
+            for (String wrong : neverThere) {
+                if (k > 0 || !wrong.equals("house")) {
+                    fault(text + wrong + " " + tokens[k], text.length());
+                }
+            }
+            for (String word : words) {
+                if (number || end || k == 0) {
+                    fault(text + word + " " + tokens[k], text.length());
+                }
+            }
+            if (!number) {
+                fault(text + "0 " + tokens[k], text.length());
+                fault(text + "05 " + tokens[k], text.length());
+            }
+            if (!end) {
+                fault(text + "; " + tokens[k], text.length());
+            }
+            text.append(tokens[k]).append(' ');
+        }
+        reads(text.toString(), 6);
+    }
+
     // "house and 8 numbers (KINDS of STEPS 0 to 7 ..)"
     private static void kindsOfEightSteps() {
         for (int s = 0; s < 8; s++) {
@@ -226,6 +258,10 @@ public final class EdgesOfTextTest {
         fault(PLAIN + "carpet;", 28);
         fault(PLAIN + "carpet 0 1;", 31);
         Due.is("6: told twice", reads(PLAIN + "carpet 6;carpet 6;", 3).count(3), 1);
+        StairManners x = reads(ONE + "one 0 5;knows 0 3;carpet 0;carpet 1;", 6);
+        Due.is("6: of one 0 nothing is told by it", x.of(0, 2) * 100 + x.of(0, 3), -92);
+        Due.is("6: of one 1, too", x.of(1, 2) * 100 + x.of(1, 3), -100);
+        Due.is("6: no MINUTE goes by", x.count(1), 0);
     }
 
     // "at i s (where one is: 0 .. 8)"
@@ -234,6 +270,7 @@ public final class EdgesOfTextTest {
             StairManners x = reads(ONE + "one 0 5;at 1 " + place + ";", 4);
             Due.is("6: where one is", x.of(1, 2), place);
             Due.is("6: where the other is", x.of(0, 2), -1);
+            Due.is("6: no MINUTE goes by", x.count(1), 0);
         }
         fault(ONE + "at 0 9;", 35);
         fault(ONE + "at 0 10;", 35);
@@ -312,7 +349,8 @@ public final class EdgesOfTextTest {
     // FAULT: "a word that is none"
     private static void words() {
         List<String> none = Arrays.asList("hous", "houses", "ouse", "on", "ones", "ne", "know", "knowss", "nows", "carpe", "carpets",
-            "arpet", "a", "att", "t", "minute", "minutess", "inutes", "step", "guest", "plain", "z", "az", "ona", "oneone");
+            "arpet", "a", "att", "t", "minute", "minutess", "inutes",
+            "mouse", "housf", "pne", "onf", "bnows", "knowt", "tarpet", "carpeu", "bt", "au", "ninutes", "minutet", "step", "guest", "plain", "z", "az", "ona", "oneone");
         for (String word : none) {
             fault(word + " 0 0 0 0 0 0 0 0;", 0);
             fault(PLAIN + word + " 0 5;", 22);

@@ -14,6 +14,7 @@ public final class EdgesOfWhatThereIsTest {
         fromNoneKept();
         fromLeavesWhatItKeepsNot();
         fromKeepsWhatMayBeUndone();
+        fromHasTheRowsOfThen();
         statusOfEachReason();
         statusOfAnotherWhat();
         countAtFirstAndAtTheMost();
@@ -133,7 +134,7 @@ public final class EdgesOfWhatThereIsTest {
             x.image(0);
             x.one(0, 1);
             Due.is("3: none may be undone", x.count(8), 0);
-            x.waits(60);
+            Edge.pass(x, 9 * 60);
             x.from(0);
             int most = Math.min(many, 8);
             Due.is("35: may be undone", x.count(8), most);
@@ -142,6 +143,31 @@ public final class EdgesOfWhatThereIsTest {
             }
             Due.is("35: no more", x.undo(), -3);
             Due.is("35: again from it", x.from(0) + x.count(8), 1 + most);
+        }
+    }
+
+    // It goes on from what the rows held, though others are in their places by now.
+    private static void fromHasTheRowsOfThen() {
+        for (int rows = 1; rows <= 6; rows++) {
+            StairManners x = Edge.made(Edge.told(PLAIN + "one 0 1;one 0 1;"));
+            for (int k = 0; k < rows; k++) {
+                x.seen(1, 7 - k, 0);
+                x.note(k, 6, 1, 0);
+                x.mark(1, k, 18 + k % 6, 4);
+            }
+            long digest = x.digest();
+            x.image(0);
+            for (int what = 0; what < 3; what++) {
+                x.forget(what);
+            }
+            for (int k = 0; k < 6; k++) {
+                x.seen(0, k, 1);
+                x.note(7, 12, 22, 8);
+                x.mark(0, 8, 5, 9);
+            }
+            x.from(0);
+            Due.is("35: " + rows + " of each", x.digest(), digest);
+            Due.is("35: nothing of the others", x.may(0, 0) + x.is(7) + x.kinds(0), 256 + 63 + 63);
         }
     }
 
